@@ -33,16 +33,19 @@ public final class ChessNotes {
 
     // A square's content in four bits: 0 for empty, else 8 * colour + kind + 1.
     private static final int EMPTY = 0;
+    private static final int WHITE_KING = 1;
+    private static final int BLACK_KING = 9;
 
     // A move in twelve bits: 64 * origin + target.
     private static final int MOVE_BITS = 12;
     private static final int SQUARE_BITS = 6;
     private static final int SIX_BITS = 63;
+    private static final int TWELVE_BITS = 4095;
 
     private static final char[] LETTERS = {'K', 'Q', 'R', 'B', 'N'};
     private static final int TO_LOWER_CASE = 32;
-    private static final byte FULL_STOP = 46;
-    private static final byte LINE_FEED = 10;
+    private static final char FULL_STOP = 46;
+    private static final char LINE_FEED = 10;
 
     private final Parser parser = new Parser();
     private final Tally tally = new Tally();
@@ -69,17 +72,7 @@ public final class ChessNotes {
         for (int i = 0; i < saved.length; i++) {
             saved[i] = new State();
         }
-        Board board = present.board;
-        board.resize(4, 4);
-        board.put(0, 0, contentOf(WHITE, KING));
-        board.put(1, 0, contentOf(WHITE, ROOK));
-        board.put(3, 1, contentOf(WHITE, ROOK));
-        board.put(2, 0, contentOf(WHITE, KNIGHT));
-        board.put(3, 3, contentOf(BLACK, KING));
-        board.put(0, 3, contentOf(BLACK, BISHOP));
-        board.put(1, 3, contentOf(BLACK, KNIGHT));
-        present.begin();
-        tally.countContinuations(present);
+        present.beginAnew();
     }
 
     // ---- input
@@ -447,17 +440,17 @@ public final class ChessNotes {
         return value >= NONE && value < bound;
     }
 
-    private static byte letterOf(int content) {
+    private static int letterOf(int content) {
         int kind = kindOf(content);
         if (kind < 0 || kind >= LETTERS.length) {
             return FULL_STOP;
         }
-        return (byte) (colourOf(content) == WHITE ? LETTERS[kind] : LETTERS[kind] + TO_LOWER_CASE);
+        return colourOf(content) == WHITE ? LETTERS[kind] : LETTERS[kind] + TO_LOWER_CASE;
     }
 
-    private void writeByte(byte value) {
+    private void writeByte(int value) {
         if (outputLength < output.length) {
-            output[outputLength++] = value;
+            output[outputLength++] = (byte) value;
         }
     }
 
@@ -563,7 +556,7 @@ public final class ChessNotes {
 
     private boolean areKingsInOrder() {
         Board board = present.board;
-        if (board.count(contentOf(WHITE, KING)) != 1 || board.count(contentOf(BLACK, KING)) != 1) {
+        if (board.count(WHITE_KING) != 1 || board.count(BLACK_KING) != 1) {
             return false;
         }
         if (present.noteCount == 0) {
@@ -674,9 +667,9 @@ public final class ChessNotes {
                 return;
             }
             contents[place] = content;
-            if (content == contentOf(WHITE, KING)) {
+            if (content == WHITE_KING) {
                 whiteKing = place;
-            } else if (content == contentOf(BLACK, KING)) {
+            } else if (content == BLACK_KING) {
                 blackKing = place;
             }
         }
@@ -700,7 +693,7 @@ public final class ChessNotes {
             if (place < FIRST_PLACE || place > LAST_PLACE) {
                 return false;
             }
-            int king = contentOf(colour, KING);
+            int king = colour == WHITE ? WHITE_KING : BLACK_KING;
             for (int way = 0; way < WAYS.length; way++) {
                 int from = place + WAYS[way];
                 if (contents[from] == king) {
@@ -842,15 +835,28 @@ public final class ChessNotes {
         }
 
         static int linkTo(int link) {
-            return link >> MOVE_BITS + SQUARE_BITS;
+            return link >> (MOVE_BITS + SQUARE_BITS);
         }
 
         static int linkMove(int link) {
-            return link & (1 << MOVE_BITS) - 1;
+            return link & TWELVE_BITS;
         }
 
         int mover(int noteNumber) {
             return noteNumber % 2 == 0 ? WHITE : BLACK;
+        }
+
+        /** Begins with the setup that every new object has. */
+        void beginAnew() {
+            board.resize(4, 4);
+            board.put(0, 0, WHITE_KING);
+            board.put(1, 0, contentOf(WHITE, ROOK));
+            board.put(3, 1, contentOf(WHITE, ROOK));
+            board.put(2, 0, contentOf(WHITE, KNIGHT));
+            board.put(3, 3, BLACK_KING);
+            board.put(0, 3, contentOf(BLACK, BISHOP));
+            board.put(1, 3, contentOf(BLACK, KNIGHT));
+            begin();
         }
 
         /** Makes what stands on the board the start position, without notes. */
@@ -1039,6 +1045,11 @@ public final class ChessNotes {
         // In how many ways a position of a layer can be played on to the last note.
         private final long[] continuations = new long[MAX_LAYERS * MAX_POSITIONS];
 
+        Tally() {
+            // What countContinuations() finds for a state without notes, as a new object has it.
+            continuations[0] = 1;
+        }
+
         void countContinuations(State state) {
             Arrays.fill(continuations, 0L);
             int last = state.noteCount * MAX_POSITIONS;
@@ -1113,6 +1124,7 @@ public final class ChessNotes {
         private static final int LARGE = 1000;
         private static final int APPENDED_BYTES = 20;
         private static final int SPACE = 32;
+        private static final int BYTE_MASK = 255;
 
         int length = 0;
         int sort = END;
@@ -1141,18 +1153,16 @@ public final class ChessNotes {
             for (int i = 0; i < MAX_BYTES && byteAt(start) == SPACE; i++) {
                 start++;
             }
-            end = start + 1;
-            if (start >= length) {
-                end = start;
-                sort = END;
-            } else if (isLetter(start)) {
-                sort = WORD;
-                readLetters();
-            } else if (isDigit(start)) {
-                sort = NUMBER;
-                readDigits();
-            } else {
-                sort = byteAt(start) == ';' ? SEMICOLON : STRAY;
+            end = start;
+            sort = sortOf(byteAt(start));
+            value = 0;
+            boolean goesOn = sort != END;
+            for (int i = 0; i < MAX_BYTES && goesOn; i++) {
+                if (sort == NUMBER) {
+                    value = Math.min(10 * value + byteAt(end) - '0', LARGE);
+                }
+                end++;
+                goesOn = (sort == WORD || sort == NUMBER) && sortOf(byteAt(end)) == sort;
             }
         }
 
@@ -1168,30 +1178,22 @@ public final class ChessNotes {
             return true;
         }
 
-        private void readLetters() {
-            for (int i = 0; i < MAX_BYTES && isLetter(end); i++) {
-                end++;
+        private static int sortOf(int oneByte) {
+            if (oneByte == NONE) {
+                return END;
             }
+            if (oneByte >= 'a' && oneByte <= 'z') {
+                return WORD;
+            }
+            if (oneByte >= '0' && oneByte <= '9') {
+                return NUMBER;
+            }
+            return oneByte == ';' ? SEMICOLON : STRAY;
         }
 
-        private void readDigits() {
-            value = byteAt(start) - '0';
-            for (int i = 0; i < MAX_BYTES && isDigit(end); i++) {
-                value = Math.min(10 * value + byteAt(end) - '0', LARGE);
-                end++;
-            }
-        }
-
+        /** A byte as 0 to 255; NONE behind the end of the text. */
         private int byteAt(int index) {
-            return index >= 0 && index < length && index < bytes.length ? bytes[index] : NONE;
-        }
-
-        private boolean isLetter(int index) {
-            return byteAt(index) >= 'a' && byteAt(index) <= 'z';
-        }
-
-        private boolean isDigit(int index) {
-            return byteAt(index) >= '0' && byteAt(index) <= '9';
+            return index >= 0 && index < length && index < bytes.length ? bytes[index] & BYTE_MASK : NONE;
         }
     }
 
@@ -1363,32 +1365,25 @@ public final class ChessNotes {
             }
             text.readNext();
             noted.state(kind, NONE, NONE, NONE, false, false);
-            if (!readFrom(board) || !readTo(board)) {
-                return false;
+            if (isPassed("from")) {
+                noted.fromColumn = readNumber(0, board.columns - 1);
+                if (noted.fromColumn == NONE) {
+                    return false;
+                }
+            }
+            if (isPassed("to")) {
+                noted.toColumn = readNumber(0, board.columns - 1);
+                if (noted.toColumn == NONE) {
+                    return false;
+                }
+                noted.toRow = readNumber(0, board.rows - 1);
+                if (noted.toRow == NONE) {
+                    return false;
+                }
             }
             noted.takes = isPassed("takes");
             noted.check = isPassed("check");
             return isSemicolon();
-        }
-
-        private boolean readFrom(Board board) {
-            if (!isPassed("from")) {
-                return true;
-            }
-            noted.fromColumn = readNumber(0, board.columns - 1);
-            return noted.fromColumn != NONE;
-        }
-
-        private boolean readTo(Board board) {
-            if (!isPassed("to")) {
-                return true;
-            }
-            noted.toColumn = readNumber(0, board.columns - 1);
-            if (noted.toColumn == NONE) {
-                return false;
-            }
-            noted.toRow = readNumber(0, board.rows - 1);
-            return noted.toRow != NONE;
         }
 
         private boolean readOrigin(State state) {
