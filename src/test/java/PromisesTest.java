@@ -200,6 +200,14 @@ public final class PromisesTest {
         rejected(true, KINGS, "note any;", 1, 0);
         rejected(true, KINGS, "boards 4 4;", 1, 0);
         rejected(true, KINGS, "Board 4 4;", 1, 0);
+        rejected(true, KINGS, "boardz 4 4;", 1, 0);
+        rejected(true, KINGS, "aboard 4 4;", 1, 0);
+        rejected(true, KINGS, "xoard 4 4;", 1, 0);
+        rejected(true, KINGS, "boar 4 4;", 1, 0);
+        rejected(true, KINGS, " ".repeat(600), 1, 600);
+        rejected(true, KINGS, "a".repeat(600), 1, 0);
+        rejected(true, KINGS, "board " + "9".repeat(594), 2, 6);
+        rejected(true, KINGS, "board 4 " + "0".repeat(591) + "4", 1, 600);
         rejected(true, KINGS, "board", 1, 5);
         rejected(true, KINGS, "board 4  ", 1, 9);
         rejected(true, KINGS, "board 2 4;", 2, 6);
@@ -253,6 +261,10 @@ public final class PromisesTest {
         due(5, x.undo(), 1);
         due(5, x.noteCount(), 0);
         due(5, play(x, "note rook from 3 to 0 1 check;"), NONE);
+        due(5, play(x, "note rook from 3 to 3 2;origin 0 3 1;drop;"), 3);
+        due(5, play(x, "note rook to 3 3;"), NONE);
+        due(5, x.errorCode(), 6);
+        due(5, x.undo(), 1);
         due(5, play(x, "note rook from 1 to 1 3 takes;"), 1);
         due(5, x.noteTakes(0), true);
         due(5, x.noteChecks(0), false);
@@ -695,6 +707,7 @@ public final class PromisesTest {
         due(39, x.gamesWithPiece(2, 2, BLACK, ROOK), 0L);
         due(39, x.gamesWithPiece(2, 2, WHITE, QUEEN), 0L);
         due(39, x.gamesWithPiece(0, 4, BLACK, KING), 20L);
+        due(39, new ChessNotes().gamesWithPiece(2, 0, WHITE, KNIGHT), 1L);
         due(42, x.inconsistencies(), 0);
         due(35, x.doubt(0), 4);
         due(35, x.doubt(1), 1);
@@ -712,6 +725,8 @@ public final class PromisesTest {
         due(36, x.moveOrigin(2, 19), 17);
         due(37, x.moveTarget(2, 19), 14);
         due(38, x.gamesWithMove(2, 19), 1L);
+        x.dropNote();
+        due(41, x.gamesIfNoted(ROOK, NONE, 2, 1, false, false), 3L);
     }
 
     private static void gamesByWrongNumbers() {
@@ -747,6 +762,8 @@ public final class PromisesTest {
         due(40, x.mostDoubtfulNote(), NONE);
         due(43, x.meanGames(), 1.0);
         due(44, x.certainShare(), 1.0f);
+        // Black's king is attacked, but no colour has moved yet.
+        due(42, x.inconsistencies(), 0);
         note(x, ROOK, NONE, 1, NONE);
         due(32, x.certainSquares(), 11);
         due(34, x.isCertain(), false);
@@ -763,6 +780,20 @@ public final class PromisesTest {
         due(35, y.doubt(1), 2);
         due(40, y.mostDoubtfulNote(), 0);
         due(42, y.inconsistencies(), 0);
+    }
+
+    /** A queen that may go anywhere twice: many moves between few positions. */
+    private static void manyMoves() {
+        ChessNotes x = loaded("board 6 6;white king 0 0;white queen 2 1;black king 5 5;note queen;note king;drop;drop;");
+        due(8, note(x, QUEEN, NONE, NONE, NONE) > 10, true);
+        for (int i = 0; i < 3; i++) {
+            due(8, x.addNote(KING, NONE, i % 2 == 0 ? 4 : 5, 5, false, false) > 5, true);
+            long games = x.gamesIfNoted(QUEEN, NONE, NONE, NONE, false, false);
+            due(8, note(x, QUEEN, NONE, NONE, NONE) > 25, true);
+            due(33, x.gameCount(), games);
+            due(42, x.inconsistencies(), 0);
+        }
+        due(33, x.gameCount() > 10000, true);
     }
 
     private static void gamesIfNoted() {
@@ -842,6 +873,7 @@ public final class PromisesTest {
         games();
         gamesByWrongNumbers();
         certainty();
+        manyMoves();
         gamesIfNoted();
         output();
         System.out.println(count + " answers, " + wrong + " of them not as due");
