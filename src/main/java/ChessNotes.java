@@ -610,13 +610,12 @@ public final class ChessNotes {
 
     /**
      * One position, spread out so that pieces can walk on it. The board lies in rows of 8 places and
-     * has a border of two places on each side, so that no step and no jump from a square leaves the array.
+     * has a border of two places on each side, so that each step and each jump off the board meets the border.
      */
     private static final class Board {
         private static final int STRIDE = 8;
         private static final int PLACES = 88;
         private static final int FIRST_PLACE = 18;
-        private static final int LAST_PLACE = 63;
         private static final int OUTSIDE = 15;
         private static final int MAX_MOVES = (MAX_PIECES - 1) * (MAX_SQUARES - 1);
         private static final int STRAIGHT_WAYS = 4;
@@ -657,16 +656,22 @@ public final class ChessNotes {
         }
 
         int at(int column, int row) {
-            int place = placeOf(column, row);
+            return on(placeOf(column, row));
+        }
+
+        private int on(int place) {
             return place >= 0 && place < contents.length ? contents[place] : OUTSIDE;
+        }
+
+        private void set(int place, int content) {
+            if (place >= 0 && place < contents.length) {
+                contents[place] = content;
+            }
         }
 
         void put(int column, int row, int content) {
             int place = placeOf(column, row);
-            if (place < 0 || place >= contents.length) {
-                return;
-            }
-            contents[place] = content;
+            set(place, content);
             if (content == WHITE_KING) {
                 whiteKing = place;
             } else if (content == BLACK_KING) {
@@ -690,25 +695,24 @@ public final class ChessNotes {
 
         /** Tells whether a piece of the colour has the place in its range, looking outwards from the place. */
         boolean isReached(int place, int colour) {
-            if (place < FIRST_PLACE || place > LAST_PLACE) {
-                return false;
-            }
             int king = colour == WHITE ? WHITE_KING : BLACK_KING;
             for (int way = 0; way < WAYS.length; way++) {
                 int from = place + WAYS[way];
-                if (contents[from] == king) {
+                int met = on(from);
+                if (met == king) {
                     return true;
                 }
-                for (int step = 1; step < MAX_SIDE && contents[from] == EMPTY; step++) {
+                for (int step = 1; step < MAX_SIDE && met == EMPTY; step++) {
                     from += WAYS[way];
+                    met = on(from);
                 }
-                int slider = contents[from] - king;
+                int slider = met - king;
                 if (slider == QUEEN || slider == (way < STRAIGHT_WAYS ? ROOK : BISHOP)) {
                     return true;
                 }
             }
             for (int jump = 0; jump < JUMPS.length; jump++) {
-                if (contents[place + JUMPS[jump]] - king == KNIGHT) {
+                if (on(place + JUMPS[jump]) - king == KNIGHT) {
                     return true;
                 }
             }
@@ -731,7 +735,7 @@ public final class ChessNotes {
 
         private void findMovesFrom(int fromColumn, int fromRow, Note note) {
             int from = placeOf(fromColumn, fromRow);
-            int mover = colourOf(contents[from]);
+            int mover = colourOf(on(from));
             long range = rangeOf(from);
             for (int row = 0; row < rows; row++) {
                 for (int column = 0; column < columns; column++) {
@@ -739,7 +743,7 @@ public final class ChessNotes {
                     if ((range & bitOf(to)) == 0) {
                         continue;
                     }
-                    int taken = contents[to];
+                    int taken = on(to);
                     boolean isFree = taken == EMPTY;
                     if (!isFree && (colourOf(taken) == mover || kindOf(taken) == KING)) {
                         continue;
@@ -757,12 +761,12 @@ public final class ChessNotes {
         }
 
         private long rangeOf(int place) {
-            int kind = kindOf(contents[place]);
+            int kind = kindOf(on(place));
             long range = 0;
             if (kind == KNIGHT) {
                 for (int jump = 0; jump < JUMPS.length; jump++) {
                     int to = place + JUMPS[jump];
-                    if (contents[to] != OUTSIDE) {
+                    if (on(to) != OUTSIDE) {
                         range |= bitOf(to);
                     }
                 }
@@ -772,29 +776,30 @@ public final class ChessNotes {
             int end = kind == ROOK ? STRAIGHT_WAYS : WAYS.length;
             int steps = kind == KING ? 1 : MAX_SIDE - 1;
             for (int way = first; way < end; way++) {
-                int to = place + WAYS[way];
-                for (int step = 0; step < steps && contents[to] != OUTSIDE; step++) {
-                    range |= bitOf(to);
-                    if (contents[to] != EMPTY) {
-                        break;
-                    }
+                int to = place;
+                int met = EMPTY;
+                for (int step = 0; step < steps && met == EMPTY; step++) {
                     to += WAYS[way];
+                    met = on(to);
+                    if (met != OUTSIDE) {
+                        range |= bitOf(to);
+                    }
                 }
             }
             return range;
         }
 
         private boolean isLegal(int from, int to, boolean mustCheck) {
-            int piece = contents[from];
-            int taken = contents[to];
+            int piece = on(from);
+            int taken = on(to);
             int mover = colourOf(piece);
-            contents[to] = piece;
-            contents[from] = EMPTY;
+            set(to, piece);
+            set(from, EMPTY);
             int ownKing = kindOf(piece) == KING ? to : kingPlace(mover);
             boolean legal = !isReached(ownKing, 1 - mover)
                     && (!mustCheck || isReached(kingPlace(1 - mover), mover));
-            contents[from] = piece;
-            contents[to] = taken;
+            set(from, piece);
+            set(to, taken);
             return legal;
         }
     }
