@@ -1,3 +1,5 @@
+import java.util.List;
+
 /** The boundary cases of "What it is" and of "Terms" 1 to 3, sentence by sentence. */
 public final class BoardEdgesTest extends Checks {
     private static final String FAR_KINGS = "board 6 6;white king 0 0;black king 5 5;";
@@ -251,7 +253,7 @@ public final class BoardEdgesTest extends Checks {
         };
     }
 
-    /** Every kind on every square of every board: what it attacks where no other piece can bar its way. */
+    /** Every kind on every square of every board: what it attacks, and where it may go. */
     private static void rangesEverywhere() {
         sentence("Terms 1: the ranges at every edge of every board");
         for (int size = 0; size < 16; size++) {
@@ -277,6 +279,9 @@ public final class BoardEdgesTest extends Checks {
                     || isBetween(column, row, toColumn, toRow, black % columns, black / columns);
             boolean byPiece = reaches(kind, toColumn - column, toRow - row) && (kind == KNIGHT || !barred);
             due(x.isAttacked(0, toColumn, toRow, WHITE), byPiece || reaches(KING, toColumn - white, toRow));
+            boolean isKing = square == white || square == black;
+            boolean areApart = !reaches(KING, black % columns - white, black / columns);
+            due(x.gamesIfNoted(kind, column, toColumn, toRow, false, false), byPiece && !isKing && areApart ? 1L : 0L);
         }
     }
 
@@ -301,11 +306,36 @@ public final class BoardEdgesTest extends Checks {
         due(x.isAttacked(0, 3, 0, WHITE), false);
         due(x.isAttacked(0, 3, 3, BLACK), false);
         due(x.isAttacked(0, 2, 2, BLACK), true);
+        // Each position by itself, whichever was asked about before.
+        ChessNotes two = loaded("board 4 4;white king 0 0;white rook 2 1;black king 0 3;note rook to 2 2;drop;note rook from 2;");
+        for (int i = 0; i < 2; i++) {
+            for (int position = two.positionsAfter(1) - 1; position >= 0; position--) {
+                for (int square = 0; square < 16; square++) {
+                    due(two.isAttacked(position, square % 4, square / 4, WHITE), isByRookOrKing(two, position, square));
+                }
+                two.legalMoves(0);
+            }
+        }
         // A piece that may not move attacks all the same.
         ChessNotes pinned = loaded("board 5 5;white king 4 3;white rook 0 4;black rook 0 2;black king 0 0;");
         due(pinned.isAttacked(0, 4, 2, BLACK), true);
         due(pinned.gamesIfNoted(KING, NONE, NONE, 2, false, false), 0L);
         due(pinned.gamesIfNoted(KING, NONE, NONE, NONE, false, false), 3L);
+    }
+
+    /** The only rook stands on an otherwise open board, and the white king in its corner. */
+    private static boolean isByRookOrKing(ChessNotes x, int position, int square) {
+        int column = square % 4;
+        int row = square / 4;
+        boolean found = column <= 1 && row <= 1 && square > 0;
+        for (int from = 0; from < 16; from++) {
+            if (x.kindAt(position, from % 4, from / 4) == ROOK && x.colourAt(position, from % 4, from / 4) == WHITE) {
+                boolean reached = reaches(ROOK, column - from % 4, row - from / 4);
+                found |= reached && !isBetween(from % 4, from / 4, column, row, 0, 0)
+                        && !isBetween(from % 4, from / 4, column, row, 0, 3);
+            }
+        }
+        return found;
     }
 
     private static void moves() {
@@ -366,6 +396,9 @@ public final class BoardEdgesTest extends Checks {
         due(open.gamesIfNoted(KNIGHT, NONE, NONE, NONE, false, true), 3L);
         note(open, KING, NONE, 1, 0);
         due(open.gamesIfNoted(ROOK, NONE, NONE, NONE, false, true), 2L);
+        due(open.gamesIfNoted(ROOK, NONE, 1, 1, false, true), 1L);
+        due(open.gamesIfNoted(ROOK, NONE, 3, 0, false, true), 1L);
+        due(open.gamesIfNoted(ROOK, NONE, 3, 2, false, true), 0L);
     }
 
     private static void noteNumbers() {
@@ -474,6 +507,18 @@ public final class BoardEdgesTest extends Checks {
         due(shown(x, 5), "......\n......\n...R..\nR.....\n......\n.K..k.");
         due(x.gamesTo(5), 1L);
 
+        // The two rooks take turns on the last squares of the largest board: most positions are found again.
+        ChessNotes corner = loaded("board 6 6;white king 0 0;black king 5 0;white rook 3 5;white rook 4 4;");
+        note(corner, ROOK, NONE, NONE, 5);
+        note(corner, KING, NONE, 5, NONE);
+        note(corner, ROOK, NONE, NONE, 5);
+        Reference plain = new Reference();
+        plain.state = new Reference.State(6, 6, "K....k" + "......" + "......" + "......" + "....R." + "...R..", List.of());
+        plain.addNote(ROOK, NONE, NONE, 5, false, false);
+        plain.addNote(KING, NONE, 5, NONE, false, false);
+        plain.addNote(ROOK, NONE, NONE, 5, false, false);
+        sameAs(plain, corner);
+
         sentence("Terms 3: in ascending order of the origin, and of the target for equal origins");
         ChessNotes y = new ChessNotes();
         due(note(y, NONE, NONE, NONE, NONE), 12);
@@ -498,6 +543,90 @@ public final class BoardEdgesTest extends Checks {
         fails(INDEX, () -> dead.gamesWithMove(0, 2));
         due(dead.dropNote(), 1);
         due(dead.doubt(0), 6);
+    }
+
+    /** All positions and games after all notes, as the plain reference finds them. */
+    private static void sameAs(Reference plain, ChessNotes x) {
+        int notes = plain.noteCount();
+        due(x.noteCount(), notes);
+        for (int i = 0; i <= notes; i++) {
+            due(x.positionsAfter(i), plain.positionsAfter(i));
+        }
+        for (int i = 0; i < notes; i++) {
+            due(x.doubt(i), plain.doubt(i));
+        }
+        for (int i = 0; i < plain.positionsAfter(notes); i++) {
+            due(x.gamesTo(i), plain.gamesTo(i));
+            due(x.writePosition(i), plain.writePosition(i));
+            for (int square = 0; square < plain.columns() * plain.rows(); square++) {
+                due(x.outputByte(square), plain.outputByte(square));
+            }
+        }
+    }
+
+    /** Two rooks that go up and down in their columns: five moves each time, and 36 positions. */
+    private static void manyGames() {
+        sentence("Terms 3: many games between few positions, up to the tenth note");
+        ChessNotes x = loaded("board 6 6;white king 0 0;white knight 2 0;white rook 1 1;"
+                + "black king 5 5;black knight 3 5;black rook 4 4;");
+        int[] positions = {1, 5, 25, 30, 36, 36, 36, 36, 36, 36, 36};
+        int[] doubts = {5, 5, 25, 25, 30, 30, 30, 30, 30, 30};
+        long games = 1;
+        for (int i = 0; i < 10; i++) {
+            games *= 5;
+            due(x.gamesIfNoted(ROOK, NONE, i % 2 == 0 ? 1 : 4, NONE, false, false), games);
+            due(note(x, ROOK, NONE, i % 2 == 0 ? 1 : 4, NONE), positions[i + 1]);
+            due(x.gameCount(), games);
+            due(x.doubt(i), doubts[i]);
+        }
+        due(x.gameCount(), 9765625L);
+        due(x.meanGames(), 9765625.0 / 36.0);
+        due(x.inconsistencies(), 0);
+        due(x.gamesWithMove(0, 0), 9765625L / 5);
+        due(x.gamesWithMove(9, 0) + x.gamesWithMove(9, 1) > 0, true);
+        due(x.certainSquares(), 36 - 12);
+        String all = state(x);
+        due(x.save(0), 10);
+        due(x.clarify(0, 1, 1), 36);
+        due(load(x, KINGS), 2);
+        due(x.restore(0), 10);
+        due(state(x), all);
+        x.undo();
+        x.undo();
+        due(x.noteFromRow(0), 1);
+        x.undo();
+        due(state(x), all);
+    }
+
+    private static void fullLayers() {
+        sentence("Terms 3: 40 positions after one note, and fewer after the next ones");
+        ChessNotes x = loaded(FORTY_MOVES + "note any;");
+        Reference plain = new Reference();
+        plain.state = new Reference.State(6, 6, "K....." + "......" + "R....." + "..Q..." + "......" + ".R...k", List.of());
+        plain.addNote(NONE, NONE, NONE, NONE, false, false);
+        due(x.addNote(KING, NONE, 4, NONE, false, false), plain.addNote(KING, NONE, 4, NONE, false, false));
+        due(x.addNote(KING, NONE, 1, 0, false, false), plain.addNote(KING, NONE, 1, 0, false, false));
+        sameAs(plain, x);
+        x.dropNote();
+        plain.dropNote();
+        for (int square = 0; square < 36; square++) {
+            for (int kind = KING; kind <= KNIGHT; kind++) {
+                due(x.gamesWithPiece(square % 6, square / 6, WHITE, kind), plain.gamesWithPiece(square % 6, square / 6, WHITE, kind));
+            }
+        }
+        // One position less than before: the last one is forgotten.
+        ChessNotes less = new ChessNotes();
+        due(note(less, ROOK, NONE, 1, NONE), 4);
+        due(less.gamesWithPiece(1, 1, WHITE, ROOK), 2L);
+        due(less.clarify(0, 1, NONE), 3);
+        due(less.gamesWithPiece(1, 0, WHITE, ROOK), 0L);
+        due(less.gamesWithPiece(3, 1, WHITE, ROOK), 3L);
+        due(less.gameCount(), 3L);
+        due(less.certainSquares(), 13);
+        due(less.clarify(0, 3, NONE), 1);
+        due(less.gamesWithPiece(1, 0, WHITE, ROOK), 1L);
+        due(less.gamesWithPiece(3, 1, WHITE, ROOK), 0L);
+        due(less.certainSquares(), 16);
     }
 
     private static void limits() {
@@ -570,6 +699,8 @@ public final class BoardEdgesTest extends Checks {
         statements();
         positions();
         limits();
+        manyGames();
+        fullLayers();
         end();
     }
 }

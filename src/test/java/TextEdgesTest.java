@@ -328,6 +328,8 @@ public final class TextEdgesTest extends Checks {
         wrongSetup("boards 4 4;", 1, 0);
         wrongSetup("boar 4 4;", 1, 0);
         wrongSetup("aboard 4 4;", 1, 0);
+        wrongSetup("xoard 4 4;white king 0 0;black king 2 2;", 1, 0);
+        wrongSetup("boarx 4 4;white king 0 0;black king 2 2;", 1, 0);
         wrongSetup("Board 4 4;", 1, 0);
         wrongSetup("bOard 4 4;", 1, 0);
         wrongSetup("boarD 4 4;", 1, 0);
