@@ -820,7 +820,7 @@ public final class ChessNotes {
         int noteCount = 0;
         final Note[] notes = new Note[MAX_NOTES];
         final int[] positions = new int[MAX_LAYERS];
-        final long[] games = new long[MAX_LAYERS * MAX_POSITIONS];
+        private final long[] games = new long[MAX_LAYERS * MAX_POSITIONS];
         private final long[] words = new long[MAX_LAYERS * MAX_POSITIONS * WORDS];
         private final long[] reached = new long[WORDS];
 
@@ -845,6 +845,12 @@ public final class ChessNotes {
 
         static int linkMove(int link) {
             return link & TWELVE_BITS;
+        }
+
+        /** Where a row with one element for each position of each layer holds that of a position; NONE if nowhere. */
+        static int cellOf(int layer, int position) {
+            boolean exists = layer >= 0 && layer < MAX_LAYERS && position >= 0 && position < MAX_POSITIONS;
+            return exists ? layer * MAX_POSITIONS + position : NONE;
         }
 
         int mover(int noteNumber) {
@@ -917,7 +923,7 @@ public final class ChessNotes {
          * all notes; 0 if there is no game, NONE if a layer has too many positions: then the state is spoilt.
          */
         int follow(int first) {
-            for (int note = first; note < noteCount; note++) {
+            for (int note = Math.max(first, 0); note < noteCount; note++) {
                 positions[note + 1] = 0;
                 linkEnds[note + 1] = linkEnds[note];
                 for (int from = 0; from < positions[note]; from++) {
@@ -958,7 +964,12 @@ public final class ChessNotes {
 
         /** The number of games that lead to a position after all notes. */
         long gamesToLast(int position) {
-            return games[noteCount * MAX_POSITIONS + position];
+            return gamesAt(noteCount, position);
+        }
+
+        long gamesAt(int layer, int position) {
+            int cell = cellOf(layer, position);
+            return cell == NONE ? 0 : games[cell];
         }
 
         long gameTotal() {
@@ -980,8 +991,12 @@ public final class ChessNotes {
         }
 
         private int read(int layer, int position, int square) {
-            int at = (layer * MAX_POSITIONS + position) * WORDS + (square >> WORD_BITS);
-            return at >= 0 && at < words.length ? (int) (words[at] >>> shiftOf(square) & CONTENT_MASK) : EMPTY;
+            int cell = cellOf(layer, position);
+            int word = square >> WORD_BITS;
+            if (cell == NONE || word < 0 || word >= WORDS) {
+                return EMPTY;
+            }
+            return (int) (words[cell * WORDS + word] >>> shiftOf(square) & CONTENT_MASK);
         }
 
         private static int shiftOf(int square) {
@@ -999,21 +1014,29 @@ public final class ChessNotes {
 
         /** Notes down where a move of a position leads; false if that is one position too many. */
         private boolean makeMove(int note, int from, int move) {
+            int cell = cellOf(note, from);
+            if (cell == NONE) {
+                return false;
+            }
             int origin = move >> SQUARE_BITS;
-            System.arraycopy(words, (note * MAX_POSITIONS + from) * WORDS, reached, 0, WORDS);
+            System.arraycopy(words, cell * WORDS, reached, 0, WORDS);
             setReached(move & SIX_BITS, read(note, from, origin));
             setReached(origin, EMPTY);
             int to = findReached(note + 1);
-            if (to == NONE) {
+            int reachedCell = cellOf(note + 1, to);
+            if (reachedCell == NONE) {
                 return false;
             }
-            games[(note + 1) * MAX_POSITIONS + to] += games[note * MAX_POSITIONS + from];
+            games[reachedCell] += games[cell];
             addLink(note, (to << SQUARE_BITS | from) << MOVE_BITS | move);
             return true;
         }
 
         /** The number of the reached position in the layer, which gets it if it is new; NONE if it is full. */
         private int findReached(int layer) {
+            if (layer < 0 || layer >= MAX_LAYERS) {
+                return NONE;
+            }
             int known = positions[layer];
             int at = layer * MAX_POSITIONS * WORDS;
             for (int position = 0; position < known; position++) {
@@ -1060,23 +1083,31 @@ public final class ChessNotes {
             int last = state.noteCount * MAX_POSITIONS;
             Arrays.fill(continuations, last, last + state.positionCount(), 1L);
             for (int note = state.noteCount - 1; note >= 0; note--) {
-                int layer = note * MAX_POSITIONS;
                 for (int i = state.linkEnds[note]; i < state.linkEnds[note + 1]; i++) {
                     int link = state.links[i];
-                    continuations[layer + State.linkFrom(link)] +=
-                            continuations[layer + MAX_POSITIONS + State.linkTo(link)];
+                    int cell = State.cellOf(note, State.linkFrom(link));
+                    if (cell != NONE) {
+                        continuations[cell] += continuationsAt(note + 1, State.linkTo(link));
+                    }
                 }
             }
+        }
+
+        private long continuationsAt(int layer, int position) {
+            int cell = State.cellOf(layer, position);
+            return cell == NONE ? 0 : continuations[cell];
         }
 
         void countGames(State state, int note) {
             moveEnd = state.board.squareCount() << SQUARE_BITS;
             Arrays.fill(games, 0, moveEnd, 0L);
-            int layer = note * MAX_POSITIONS;
             for (int i = state.linkEnds[note]; i < state.linkEnds[note + 1]; i++) {
                 int link = state.links[i];
-                games[State.linkMove(link)] += state.games[layer + State.linkFrom(link)]
-                        * continuations[layer + MAX_POSITIONS + State.linkTo(link)];
+                int move = State.linkMove(link);
+                if (move < moveEnd) {
+                    games[move] += state.gamesAt(note, State.linkFrom(link))
+                            * continuationsAt(note + 1, State.linkTo(link));
+                }
             }
         }
 
